@@ -1,3 +1,10 @@
+import java.lang.reflect.Constructor;
+import java.lang.reflect.Field;
+import java.lang.reflect.Method;
+import java.lang.reflect.Modifier;
+import java.util.Set;
+import java.util.TreeSet;
+
 /** Promise 1, the constants, and the public face. */
 public final class ConstructionTest {
     public static void main(String[] args) {
@@ -62,26 +69,26 @@ public final class ConstructionTest {
 
     /** The public face is the document's and no member is seen outside beside it. */
     private static void face() {
-        StringBuilder seen = new StringBuilder();
         Class<?> type = ConjunctiveParser.class;
-        java.util.TreeSet<String> members = new java.util.TreeSet<>();
-        for (java.lang.reflect.Field field : type.getDeclaredFields()) {
-            if (!java.lang.reflect.Modifier.isPrivate(field.getModifiers())) {
+        Set<String> members = new TreeSet<>();
+        for (Field field : type.getDeclaredFields()) {
+            if (!Modifier.isPrivate(field.getModifiers())) {
                 members.add(field.toString());
             }
         }
-        for (java.lang.reflect.Method method : type.getDeclaredMethods()) {
-            if (!java.lang.reflect.Modifier.isPrivate(method.getModifiers())) {
+        for (Method method : type.getDeclaredMethods()) {
+            if (!Modifier.isPrivate(method.getModifiers())) {
                 members.add(method.toString());
             }
         }
-        for (java.lang.reflect.Constructor<?> constructor : type.getDeclaredConstructors()) {
+        for (Constructor<?> constructor : type.getDeclaredConstructors()) {
             members.add(constructor.toString());
         }
+        StringBuilder seen = new StringBuilder();
         for (String member : members) {
             seen.append(member.replace("ConjunctiveParser.", "")).append('\n');
         }
-        Checks.due("the class", java.lang.reflect.Modifier.toString(type.getModifiers()), "public final");
+        Checks.due("the class", Modifier.toString(type.getModifiers()), "public final");
         Checks.due("the nested classes", type.getDeclaredClasses().length, 0);
         Checks.due("the public face", seen.toString(), """
                 public ConjunctiveParser(int,int)
