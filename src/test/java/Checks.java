@@ -1,14 +1,32 @@
-import java.util.Arrays;
+import java.util.stream.IntStream;
 
-/** What the tests share: counting wrong answers, building grammars and words, and looking at a whole object. */
+/** Runs the tests sentence by sentence, counts wrong answers, and builds grammars and words. */
 final class Checks {
     static final int A = ConjunctiveParser.TERMINAL_BASE;
     static final int B = A + 1;
     static final int C = A + 2;
 
+    private static int sentences = 0;
+    private static int broken = 0;
     private static int wrong = 0;
 
     private Checks() {
+    }
+
+    /** Runs the test of one sentence of the document; a throw breaks that sentence and lets the others run. */
+    static void sentence(String words, Runnable test) {
+        int before = wrong;
+        try {
+            test.run();
+        } catch (RuntimeException | Error thrown) {
+            wrong++;
+            System.out.println("threw " + thrown);
+        }
+        sentences++;
+        if (wrong != before) {
+            broken++;
+            System.out.println("BROKEN: " + words);
+        }
     }
 
     static void due(String call, long got, long want) {
@@ -30,8 +48,8 @@ final class Checks {
     }
 
     static void end() {
+        System.out.println(sentences - broken + " of " + sentences + " sentences hold");
         if (wrong != 0) {
-            System.out.println(wrong + " answers are not as due");
             System.exit(1);
         }
     }
@@ -70,12 +88,12 @@ final class Checks {
 
     static String counts(ConjunctiveParser x) {
         return x.ruleCount() + " rules, " + x.conjunctCount() + " conjuncts, " + x.symbolCount() + " symbols, "
-                + x.inputLength() + " letters, parsed " + x.isParsed();
+                + x.inputLength() + " letters";
     }
 
-    /** Everything that can be asked without changing the object. */
-    static String view(ConjunctiveParser x) {
-        StringBuilder text = new StringBuilder(counts(x));
+    /** All that the stored D answers; refusals too. */
+    static String facts(ConjunctiveParser x) {
+        StringBuilder text = new StringBuilder();
         for (int a = -1; a <= 8; a++) {
             text.append("; ").append(a).append(": ").append(x.countDerived(a)).append(" of");
             for (int i = 0; i <= x.inputLength(); i++) {
@@ -87,30 +105,28 @@ final class Checks {
         return text.toString();
     }
 
-    /** The grammar of a^n b^n c^n: nonterminal 0 is the intersection of a* b^n c^n and a^n b^n c*. */
-    static ConjunctiveParser equalThirds() {
-        ConjunctiveParser x = new ConjunctiveParser(5, 3);
-        rule(x, 0, body(1, 2), body(4, 3));
-        rule(x, 1, body(A, 1));
-        rule(x, 1, body());
-        rule(x, 2, body(B, 2, C));
-        rule(x, 2, body());
-        rule(x, 4, body(A, 4, B));
-        rule(x, 4, body());
-        rule(x, 3, body(C, 3));
-        rule(x, 3, body());
-        return x;
+    /** Everything that can be asked without changing the object. */
+    static String view(ConjunctiveParser x) {
+        return counts(x) + ", parsed " + x.isParsed() + facts(x);
     }
 
-    static final int[] FAR_INTS = {Integer.MIN_VALUE, Integer.MIN_VALUE + 1, -1000, -16, -2, -1,
-        1000, 1 << 16, Integer.MAX_VALUE - 1, Integer.MAX_VALUE};
+    /**
+     * Small ints on both sides of every bound, and far ones: the ends of int, and those that a shift, a byte,
+     * a short or a product with 13 would fold back into the small ones.
+     */
+    static IntStream ints() {
+        IntStream far = IntStream.of(Integer.MIN_VALUE, Integer.MIN_VALUE + 1, Integer.MIN_VALUE + 16,
+                -1982292598, -991146299, -65536, -65520, -32768, -1000, -256, -255, -240, -128,
+                127, 128, 255, 256, 257, 272, 1000, 32767, 32768, 65535, 65536, 65537, 65552, 1 << 24, 1 << 28,
+                1321528399, Integer.MAX_VALUE - 16, Integer.MAX_VALUE - 1, Integer.MAX_VALUE);
+        return IntStream.concat(IntStream.rangeClosed(-40, 70), far);
+    }
 
-    /** Every small int from below zero to past all symbols, and some far ones. */
-    static int[] manyInts() {
-        int[] ints = Arrays.copyOf(FAR_INTS, FAR_INTS.length + 61);
-        for (int k = 0; k <= 60; k++) {
-            ints[FAR_INTS.length + k] = k - 20;
-        }
-        return ints;
+    static int[] below(int bound) {
+        return ints().filter(k -> k < bound).toArray();
+    }
+
+    static int[] from(int bound) {
+        return ints().filter(k -> k >= bound).toArray();
     }
 }

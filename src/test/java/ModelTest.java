@@ -8,16 +8,21 @@ import java.util.List;
 public final class ModelTest {
     private static final int RUNS = 1500;
     private static final int CALLS = 400;
+    private static final int[] INTS = Checks.ints().toArray();
 
     private static long state = 1;
 
     public static void main(String[] args) {
+        Checks.sentence("every answer of long runs is as the second program's", ModelTest::allRuns);
+        Checks.end();
+    }
+
+    private static void allRuns() {
         int accepted = 0;
         for (int run = 0; run < RUNS; run++) {
             accepted += oneRun(run);
         }
         Checks.due("some words are accepted", accepted > 1000, true);
-        Checks.end();
     }
 
     private static int next(int bound) {
@@ -27,7 +32,7 @@ public final class ModelTest {
 
     /** A number in 0..most - 1, or now and then one that may lie outside. */
     private static int mostly(int most) {
-        return next(20) == 0 ? Checks.manyInts()[next(71)] : next(most);
+        return next(20) == 0 ? INTS[next(INTS.length)] : next(most);
     }
 
     private static int symbol(int n, int t) {
@@ -72,6 +77,7 @@ public final class ModelTest {
                 query(at, x, model);
             }
             Checks.due(at + "counts", Checks.counts(x), model.counts());
+            Checks.due(at + "parsed", x.isParsed(), model.parsed);
         }
         return accepted;
     }
@@ -254,11 +260,11 @@ public final class ModelTest {
 
         String counts() {
             return rules.size() + " rules, " + conjuncts() + " conjuncts, " + symbols() + " symbols, "
-                    + word.size() + " letters, parsed " + parsed;
+                    + word.size() + " letters";
         }
 
         String view() {
-            StringBuilder text = new StringBuilder(counts());
+            StringBuilder text = new StringBuilder(counts()).append(", parsed ").append(parsed);
             for (int a = -1; a <= 8; a++) {
                 text.append("; ").append(a).append(": ").append(countDerived(a)).append(" of");
                 for (int i = 0; i <= word.size(); i++) {
