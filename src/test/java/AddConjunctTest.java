@@ -115,7 +115,7 @@ public final class AddConjunctTest {
     private static void symbolCountStays() {
         ConjunctiveParser x = States.ordinary();
         x.addConjunct();
-        Checks.due("symbolCount()", x.symbolCount(), 5);
+        Checks.due("symbolCount()", x.symbolCount(), 6);
         ConjunctiveParser y = States.fullOfSymbols();
         y.addConjunct();
         Checks.due("symbolCount() when full", y.symbolCount(), 64);

@@ -144,7 +144,7 @@ public final class AddSymbolTest {
     private static void otherLimits() {
         Checks.due("addSymbol(A) after 16 rules", States.fullOfRules().addSymbol(Checks.A), 2);
         Checks.due("addSymbol(A) after 32 conjuncts", States.fullOfConjuncts().addSymbol(Checks.A), 2);
-        Checks.due("addSymbol(A) after 12 letters", States.fullWord().addSymbol(Checks.A), 2);
+        Checks.due("addSymbol(A) after 12 letters", States.fullWord().addSymbol(Checks.A), 3);
     }
 
     private static void severalAtOnce() {

@@ -23,12 +23,12 @@ final class States {
         return x;
     }
 
-    /** Three rules, of which the open one has the conjuncts ab and a; each limit is far. */
+    /** Three rules, of which the open one is B -> SC & ab with its second conjunct open; each limit is far. */
     static ConjunctiveParser ordinary() {
         ConjunctiveParser x = new ConjunctiveParser(3, 2);
-        Checks.rule(x, 0, Checks.body(1, 2));
+        Checks.rule(x, 0, Checks.body(A));
         Checks.rule(x, 2, Checks.body(B));
-        Checks.rule(x, 1, Checks.body(A), Checks.body(A));
+        Checks.rule(x, 1, Checks.body(0, 2), Checks.body(A, B));
         Checks.word(x, "abab");
         return x;
     }
