@@ -152,9 +152,7 @@ public final class AddConjunctTest {
         x.addSymbol(Checks.B);
         Checks.due("inputLength()", x.inputLength(), 12);
         x.parse();
-        for (int p = 0; p < 12; p++) {
-            Checks.due("letter " + p, x.derives(1, p, p + 1), "abbabaabbaba".charAt(p) - 'a');
-        }
+        Checks.dueWhereB(x, 1, "abbabaabbaba");
     }
 
     private static void notParsed() {

@@ -226,9 +226,7 @@ public final class AddSymbolTest {
         Checks.rule(x, 1, Checks.body(Checks.B));
         Checks.due("inputLength()", x.inputLength(), 12);
         x.parse();
-        for (int p = 0; p < 12; p++) {
-            Checks.due("letter " + p, x.derives(1, p, p + 1), "abbabaabbaba".charAt(p) - 'a');
-        }
+        Checks.dueWhereB(x, 1, "abbabaabbaba");
     }
 
     private static void notParsed() {

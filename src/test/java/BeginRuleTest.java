@@ -188,9 +188,7 @@ public final class BeginRuleTest {
         Checks.due("inputLength()", x.inputLength(), 12);
         Checks.rule(x, 1, Checks.body(Checks.B));
         x.parse();
-        for (int p = 0; p < 12; p++) {
-            Checks.due("letter " + p, x.derives(1, p, p + 1), "abbabaabbaba".charAt(p) - 'a');
-        }
+        Checks.dueWhereB(x, 1, "abbabaabbaba");
     }
 
     private static void notParsed() {

@@ -81,6 +81,13 @@ final class Checks {
         }
     }
 
+    /** Given B -> b alone, the word's letters are those of a word of a and b, each at its place. */
+    static void dueWhereB(ConjunctiveParser x, int b, String letters) {
+        for (int p = 0; p < letters.length(); p++) {
+            due("letter b at " + p, x.derives(b, p, p + 1), letters.charAt(p) - 'a');
+        }
+    }
+
     static int parseOf(ConjunctiveParser x, String letters) {
         word(x, letters);
         return x.parse();

@@ -328,9 +328,7 @@ public final class ParseTest {
         Checks.rule(x, 1, Checks.body(B));
         x.addLetter(0);
         x.parse();
-        for (int p = 0; p < 12; p++) {
-            Checks.due("letter " + p, x.derives(1, p, p + 1), "abbabaabbaba".charAt(p) - 'a');
-        }
+        Checks.dueWhereB(x, 1, "abbabaabbaba");
     }
 
     private static void sameAnswer() {
